@@ -1,0 +1,119 @@
+import java.nio.charset.StandardCharsets;
+import java.util.NoSuchElementException;
+
+/** What the tests share: feeding of texts, and a count of the answers that are not as due. */
+final class Check {
+    interface Call {
+        Object answer();
+    }
+
+    private static int wrong = 0;
+    private static int asked = 0;
+
+    private Check() {
+    }
+
+    static void due(String what, Object got, Object want) {
+        asked++;
+        if (!want.equals(got)) {
+            wrong++;
+            if (wrong <= 50) {
+                System.out.println(what + ": answered " + got + ", due is " + want);
+            }
+        }
+    }
+
+    static void missing(String what, Call call) {
+        due(what, thrownBy(call), NoSuchElementException.class);
+    }
+
+    static void illegal(String what, Call call) {
+        due(what, thrownBy(call), IllegalArgumentException.class);
+    }
+
+    private static Object thrownBy(Call call) {
+        try {
+            return call.answer();
+        } catch (RuntimeException e) {
+            return e.getClass();
+        }
+    }
+
+    static void end(String test) {
+        System.out.println(test + ": " + asked + " answers, " + wrong + " not as due");
+        if (wrong != 0) {
+            System.exit(1);
+        }
+    }
+
+    /** Feeds a text, filled up with spaces to whole calls; answers its own length. */
+    static int feed(NetMerge x, String text) {
+        byte[] bytes = text.getBytes(StandardCharsets.ISO_8859_1);
+        for (int at = 0; at < bytes.length; at += 20) {
+            x.feed(word(bytes, at), word(bytes, at + 4), word(bytes, at + 8), word(bytes, at + 12), word(bytes, at + 16));
+        }
+        return bytes.length;
+    }
+
+    private static int word(byte[] bytes, int at) {
+        int word = 0;
+        for (int i = at; i < at + 4; i++) {
+            word = word << 8 | (i < bytes.length ? bytes[i] & 255 : ' ');
+        }
+        return word;
+    }
+
+    static int load(NetMerge x, String text) {
+        return x.load(feed(x, text));
+    }
+
+    static int query(NetMerge x, String text) {
+        return x.query(feed(x, text));
+    }
+
+    static NetMerge made(String text) {
+        NetMerge x = new NetMerge();
+        int hosts = load(x, text);
+        if (hosts < 0) {
+            due("load of \"" + text + "\"", hosts, "no error");
+        }
+        return x;
+    }
+
+    static String formatted(NetMerge x, int host) {
+        x.format(host);
+        return lastFormatted(x);
+    }
+
+    static String lastFormatted(NetMerge x) {
+        StringBuilder text = new StringBuilder();
+        for (int i = 0; x.formattedByte(i) != NetMerge.NONE; i++) {
+            text.append((char) x.formattedByte(i));
+        }
+        return text.toString();
+    }
+
+    /** All that undoing restores, as far as the face shows it. */
+    static String shown(NetMerge x) {
+        StringBuilder all = new StringBuilder();
+        for (int what = 0; what <= 10; what++) {
+            all.append(x.size(what)).append(' ');
+        }
+        for (int host = 0; host < x.size(0); host++) {
+            all.append("| ");
+            for (int i = 0; x.name(host, i) != NetMerge.NONE; i++) {
+                all.append((char) x.name(host, i));
+            }
+            for (int what = 0; what <= 6; what++) {
+                all.append(' ').append(x.host(host, what));
+            }
+        }
+        for (int rule = 0; rule < x.size(1); rule++) {
+            all.append("/ ");
+            for (int what = 0; what <= 3; what++) {
+                all.append(x.rule(rule, what)).append(' ');
+            }
+        }
+        return all.toString();
+    }
+}
