@@ -1157,7 +1157,11 @@ public final class NetMerge {
             boolean sound = readHead();
             // a clause has a byte at least, so a text has no more clauses than bytes
             for (int clause = 0; sound && clause < MAX_BYTES && text.kind != Text.END; clause++) {
-                sound = readClause() && takeSemicolon();
+                sound = text.isWord("host") ? readHost()
+                        : text.isWord("rule") ? readRule()
+                        : text.isWord("move") ? readMove()
+                        : fail(1);
+                sound = sound && takeSemicolon();
             }
             return error;
         }
@@ -1204,16 +1208,6 @@ public final class NetMerge {
             }
             nets.poolLast = taken;
             return true;
-        }
-
-        private boolean readClause() {
-            if (text.isWord("host")) {
-                return readHost();
-            }
-            if (text.isWord("rule")) {
-                return readRule();
-            }
-            return text.isWord("move") ? readMove() : fail(1);
         }
 
         private boolean readHost() {
@@ -1336,10 +1330,9 @@ public final class NetMerge {
         }
 
         private boolean isNumber(int least, int most) {
-            if (text.kind != Text.NUMBER) {
-                return fail(1);
-            }
-            return text.number >= least && text.number <= most || fail(2);
+            boolean within = text.number >= least && text.number <= most;
+            error = text.kind != Text.NUMBER ? 1 : within ? 0 : 2;
+            return error == 0;
         }
 
         private boolean fail(int code) {
