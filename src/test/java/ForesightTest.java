@@ -62,6 +62,12 @@ public final class ForesightTest {
         Check.due("P17 it would keep its latest number", y.conflict(), 7);
         y.plan(1, 5, 2);
         Check.due("P17 and the earlier one no longer", y.conflict(), -1);
+        NetMerge last = Check.made("nets;host a 0 250;host b 0 6;move b 250 1;");
+        Check.due("P17 the greatest number", last.conflict(), 250);
+        Check.due("P16 the greatest number", last.whyNot(), -4);
+        last.addHost(0, 1);
+        last.plan(0, 1, 1);
+        Check.due("P17 the least number", last.conflict(), 1);
         NetMerge z = Check.made("nets;host a 0 5;host b 0 6;");
         for (int done = 0; done < 9; done++) {
             z.wave();

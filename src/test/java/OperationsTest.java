@@ -138,6 +138,9 @@ public final class OperationsTest {
         y.wave();
         Check.due("P27 no wave is left", y.settle(), 0);
         Check.due("P27 without clashes", new NetMerge().settle(), 0);
+        NetMerge z = Check.made("nets;host a 0 250;host b 1 250;host c 0 1;host d 1 1;");
+        Check.due("P27 the least and the greatest number", z.settle(), 2);
+        Check.due("P27 the greatest comes last", z.host(1, 4), 201);
     }
 
     private static void settleChoosesHosts() {

@@ -163,6 +163,12 @@ public final class QueryTest {
             longest.append("and 1=1");
         }
         asked(longest.toString(), 5);
+        StringBuilder closest = new StringBuilder("many1=1");
+        while (closest.length() + 5 <= 200) {
+            closest.append("or1=1");
+        }
+        asked(closest.toString(), 5);
+        asked(closest.toString().replace('=', '<'), 0);
         StringBuilder ors = new StringBuilder("first 1=2");
         while (ors.length() + 14 <= 200) {
             ors.append("or 1=2and 1=1 ");

@@ -47,6 +47,7 @@ public final class RandomRunsTest {
         span = new int[] {6, 15, 50, 250}[random.nextInt(4)];
         told.clear();
         boolean alike = random.nextInt(4) == 0 || read("load", text());
+        alike = alike && (random.nextInt(6) != 0 || crowded());
         for (int call = 0; alike && call < CALLS; call++) {
             int kind = random.nextInt(100);
             if (kind < 2) {
@@ -61,6 +62,19 @@ public final class RandomRunsTest {
             alike = alike && sameState();
         }
         return alike;
+    }
+
+    /** Fills up hosts and rules to what there may be at most. */
+    private static boolean crowded() throws ReflectiveOperationException {
+        boolean alike = true;
+        span = 60;
+        for (int i = 0; alike && i < 200 && program.size(0) < 40; i++) {
+            alike = both("addHost");
+        }
+        for (int i = 0; alike && i < 100 && program.size(1) < 30; i++) {
+            alike = both("addRule");
+        }
+        return alike && sameState();
     }
 
     private static boolean both(String name) throws ReflectiveOperationException {
