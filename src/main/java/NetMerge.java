@@ -1571,7 +1571,7 @@ public final class NetMerge {
 
     /** The text of the most recent call of format. */
     private static final class Line {
-        /** A name, three numbers and a wave with all signs between them take 25 bytes. */
+        /** A name, three numbers and a wave with all signs between them take 24 bytes. */
         private static final int MAX_LINE = 32;
 
         private final byte[] bytes = new byte[MAX_LINE];
