@@ -93,6 +93,67 @@ final class Check {
         return text.toString();
     }
 
+    /** Bytes as four to an int, for single calls of feed. */
+    static int feedBytes(NetMerge x, byte[] twenty) {
+        return x.feed(word(twenty, 0), word(twenty, 4), word(twenty, 8), word(twenty, 12), word(twenty, 16));
+    }
+
+    /** A call that is refused by an answer or by the class of an exception, and changes nothing. */
+    static void refused(String what, NetMerge x, Object want, Call call) {
+        String before = stands(x);
+        due(what, thrownBy(call), want);
+        due(what + ": nothing changes", stands(x), before);
+    }
+
+    /** Like refused, with fewer calls, for objects with as many hosts as there may be. */
+    static void refusedBriefly(String what, NetMerge x, Object want, Call call) {
+        String before = brief(x);
+        due(what, thrownBy(call), want);
+        due(what + ": nothing changes", brief(x), before);
+    }
+
+    /** All that the face shows without a change, but for the buffer and the snapshot. */
+    static String stands(NetMerge x) {
+        return shown(x) + "undo " + x.undoCount() + " error " + x.errorPosition() + " text " + lastFormatted(x);
+    }
+
+    static String brief(NetMerge x) {
+        StringBuilder all = new StringBuilder();
+        for (int what = 0; what <= 10; what++) {
+            all.append(x.size(what)).append(' ');
+        }
+        all.append(x.undoCount()).append(' ').append(x.errorPosition()).append(' ').append(x.formattedByte(0));
+        all.append(' ').append(x.freeNumber()).append(' ').append(x.movedShare()).append(' ').append(x.meanReach());
+        return all.toString();
+    }
+
+    /** The numbers of a host, as host answers them: office number kept pinned planned wave moved. */
+    static String host(NetMerge x, int host) {
+        StringBuilder all = new StringBuilder();
+        for (int what = 0; what <= 6; what++) {
+            all.append(what == 0 ? "" : " ").append(x.host(host, what));
+        }
+        return all.toString();
+    }
+
+    /** The sides of all rules. */
+    static String sides(NetMerge x) {
+        StringBuilder all = new StringBuilder();
+        for (int rule = 0; rule < x.size(1); rule++) {
+            all.append(rule == 0 ? "" : " ").append(x.rule(rule, 2)).append(' ').append(x.rule(rule, 3));
+        }
+        return all.toString();
+    }
+
+    static void waves(NetMerge x, int count) {
+        for (int done = 0; done < count; done++) {
+            int moves = x.wave();
+            if (moves < 0) {
+                due("wave " + (done + 1) + " of " + count, moves, "not refused");
+            }
+        }
+    }
+
     /** All that undoing restores, as far as the face shows it. */
     static String shown(NetMerge x) {
         StringBuilder all = new StringBuilder();
