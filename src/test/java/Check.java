@@ -87,7 +87,7 @@ final class Check {
 
     static String lastFormatted(NetMerge x) {
         StringBuilder text = new StringBuilder();
-        for (int i = 0; x.formattedByte(i) != NetMerge.NONE; i++) {
+        for (int i = 0; i < 100 && x.formattedByte(i) != NetMerge.NONE; i++) {
             text.append((char) x.formattedByte(i));
         }
         return text.toString();
@@ -115,6 +115,29 @@ final class Check {
     /** All that the face shows without a change, but for the buffer and the snapshot. */
     static String stands(NetMerge x) {
         return shown(x) + "undo " + x.undoCount() + " error " + x.errorPosition() + " text " + lastFormatted(x);
+    }
+
+    /** What can be asked of an object besides its plain numbers; calls that look ahead come last. */
+    static String asks(NetMerge x) {
+        StringBuilder all = new StringBuilder();
+        all.append(x.movedShare()).append(' ').append(x.meanReach()).append(' ').append(x.freeNumber());
+        for (int host = 0; host < x.size(0); host++) {
+            all.append(' ').append(x.format(host)).append('[').append(lastFormatted(x)).append("] ").append(x.reach(host));
+            all.append(' ').append(x.holder(x.host(host, 0), x.host(host, 1)));
+        }
+        for (int index = 0; index < x.size(9); index++) {
+            all.append(" clash ").append(x.clash(index));
+        }
+        for (int wave = 1; wave <= 9; wave++) {
+            all.append(' ').append(x.plans(wave));
+        }
+        all.append(" query ").append(query(x, "many clash=1 or old>0")).append(' ').append(query(x, "first reach>0"));
+        all.append(" ahead ").append(x.rewrites()).append(' ').append(x.whyNot()).append(' ').append(x.conflict());
+        all.append(' ').append(x.openIn());
+        for (int waves = 0; waves <= 9; waves++) {
+            all.append(' ').append(x.clashesIn(waves));
+        }
+        return all.toString();
     }
 
     static String brief(NetMerge x) {
@@ -162,7 +185,7 @@ final class Check {
         }
         for (int host = 0; host < x.size(0); host++) {
             all.append("| ");
-            for (int i = 0; x.name(host, i) != NetMerge.NONE; i++) {
+            for (int i = 0; i < 100 && x.name(host, i) != NetMerge.NONE; i++) {
                 all.append((char) x.name(host, i));
             }
             for (int what = 0; what <= 6; what++) {

@@ -192,8 +192,9 @@ public final class EdgeInputTest {
 
     /** P3: "-10 minus the error code if the text has an error (then only the buffer and the error position change)". */
     private static void loadErrorKeepsTheRest() {
-        String[] texts = {"nets;host q 0 9", "nets keep 4;", "nets;host q 0 9;host q 1 9;", "nets;host q 0 9;move r 1 1;"};
-        int[] places = {15, 10, 21, 21};
+        String head = "nets keep 0 per 9 pool 1 2;rule 1 deny any any;";
+        String[] texts = {"host q 0 9", "host q 0 0;", "host q 0 9;host q 1 9;", "host q 0 9;move r 1 1;"};
+        int[] places = {57, 56, 63, 63};
         for (int i = 0; i < texts.length; i++) {
             NetMerge x = Check.made(FULL_STATE);
             x.wave();
@@ -202,11 +203,21 @@ public final class EdgeInputTest {
             x.removeHost(2);
             x.format(0);
             String before = Check.shown(x);
-            Check.due("P3 code " + (i + 1), Check.load(x, texts[i]), -11 - i);
+            Check.due("P3 code " + (i + 1), Check.load(x, head + texts[i]), -11 - i);
             Check.due("P3 code " + (i + 1) + ": the error position changes", x.errorPosition(), places[i]);
             Check.due("P3 code " + (i + 1) + ": the buffer changes", x.feed(0, 0, 0, 0, 0), 20);
             Check.due("P3 code " + (i + 1) + ": nothing else", Check.shown(x), before);
             Check.due("P3 code " + (i + 1) + ": the text of format stays", Check.lastFormatted(x), "a 20+10");
+            x.query(0);
+            String asked = Check.asks(x);
+            Check.load(x, head + texts[i]);
+            Check.due("P3 code " + (i + 1) + ": nor what is asked", Check.asks(x), asked);
+            x.unplan(1);
+            Check.load(x, head + texts[i]);
+            Check.due("P3 code " + (i + 1) + ": nor what is settled", x.settle(), 1);
+            Check.due("P3 code " + (i + 1) + ": by the pool that there is", x.host(1, 4), 100);
+            x.undo();
+            x.undo();
             Check.due("P3 code " + (i + 1) + ": the undo history stays", x.undoCount(), 2);
             Check.due("P3 code " + (i + 1) + ": and can be used", x.undo(), 1);
             Check.due("P3 code " + (i + 1) + ": to the state ahead", Check.shown(x), saved);

@@ -373,6 +373,16 @@ public final class EdgeOperationsTest {
         x.open();
         Check.due("P31 none of office 0", x.close(), 0);
         Check.due("P31 two nets again", x.addHost(0, 5), 2);
+        NetMerge full = new NetMerge();
+        for (int i = 0; i < 40; i++) {
+            full.addHost(0, 1 + i);
+        }
+        full.open();
+        Check.due("P31 all 40 of office 0", full.close(), 40);
+        full.removeHost(20);
+        full.addHost(1, 99);
+        full.open();
+        Check.due("P31 all but the last one", full.close(), 39);
     }
 
     /** P32: "a rule comes behind all others. Returns its number", sides 0 to 250. */

@@ -7,6 +7,7 @@ public final class EdgeQueryTest {
         everyByte();
         everyProperty();
         valuesOfProperties();
+        reachAsItIs();
         clashOfEitherNumber();
         numbers();
         comparisons();
@@ -14,6 +15,7 @@ public final class EdgeQueryTest {
         sixOpenAtTheSameTime();
         openUntilTheEndOfItsFactor();
         theTextEndsTooEarly();
+        everyLetterOfAKeyword();
         wrongTokens();
         firstErrors();
         changesNothing();
@@ -173,6 +175,26 @@ public final class EdgeQueryTest {
         }
     }
 
+    /** Section 5: "'reach' (as reach)", as it is when the query is read, on either side. */
+    private static void reachAsItIs() {
+        NetMerge x = Check.made("nets;host a 0 5;host b 0 6;host c 0 7;rule 0 allow 5 any;");
+        asked(x, "first 2=reach", 0);
+        asked(x, "first reach=2", 0);
+        asked(x, "many 0=reach", 2);
+        x.removeRule(0);
+        asked(x, "many 0=reach", 3);
+        x.addRule(0, true, 0, 7);
+        asked(x, "many 1=reach", 2);
+        asked(x, "first 0=reach", 2);
+        x.undo();
+        asked(x, "first 1=reach", -1);
+        asked(x, "many reach=reach and reach<1 and 1>reach", 3);
+        Check.load(x, "nets;host a 1 5;host b 1 6;rule 1 allow any any;");
+        asked(x, "many 1=reach or reach=1", 2);
+        asked(x, "many reach<host", 0);
+        asked(x, "many host<reach", 1);
+    }
+
     /** Section 5: "'clash' (1 if one of the numbers that it holds is a clash, otherwise 0)". */
     private static void clashOfEitherNumber() {
         NetMerge x = Check.made("nets keep 1;host a 0 5;host b 1 6;host c 1 7;move a 7 1;move b 5 1;move c 8 1;");
@@ -328,6 +350,30 @@ public final class EdgeQueryTest {
         wrong(x, "\n\n \n", 1, 4);
         wrong(x, "many", 1, 4);
         wrong(x, "first ", 1, 6);
+    }
+
+    /** A keyword is one in all of its letters. */
+    private static void everyLetterOfAKeyword() {
+        everyLetter("many not host=0 and office=1 or number=0");
+        everyLetter("first old=1 or pinned=1 and planned=0");
+        everyLetter("many wave=1 or clash=0 and reach=0");
+    }
+
+    private static void everyLetter(String whole) {
+        NetMerge x = five();
+        Check.query(x, whole);
+        Check.due("P42 \"" + whole + "\" is a query", x.errorPosition(), -1);
+        int start = 0;
+        for (int i = 0; i < whole.length(); i++) {
+            boolean letter = whole.charAt(i) >= 'a' && whole.charAt(i) <= 'z';
+            if (i > 0 && letter && !(whole.charAt(i - 1) >= 'a' && whole.charAt(i - 1) <= 'z')) {
+                start = i;
+            }
+            if (letter) {
+                wrong(x, whole.substring(0, i) + "z" + whole.substring(i + 1), 1, start);
+                wrong(x, whole.substring(0, i) + whole.charAt(i) + "z" + whole.substring(i + 1), 1, start);
+            }
+        }
     }
 
     private static void wrongTokens() {

@@ -15,6 +15,7 @@ public final class EdgeTextTest {
         ruleRanges();
         moveRanges();
         leadingZeros();
+        everyLetterOfAKeyword();
         fullTables();
         takenNamesAndNumbers();
         wrongHosts();
@@ -152,6 +153,8 @@ public final class EdgeTextTest {
         good("nets pool 250 250;", "0 0 0 0 1 3 250 250 0 0 0 ");
         good("nets pool 249 250;", "0 0 0 0 1 3 249 250 0 0 0 ");
         bad("nets pool 0 1;", 2, 10);
+        bad("nets keep 0 pool 0 5;", 2, 17);
+        bad("nets per 1 pool 0 0;", 2, 16);
         bad("nets pool 251 250;", 2, 10);
         bad("nets pool 251 251;", 2, 10);
         bad("nets pool 1 0;", 2, 12);
@@ -268,6 +271,27 @@ public final class EdgeTextTest {
         bad("nets;host a 0 5;host b 0 " + zeros + "5;", 3, 25);
         bad("nets;host a 0 " + zeros + "251;", 2, 14);
         bad("nets  \n  keep\n 0004;", 2, 15);
+    }
+
+    /** A keyword is one in all of its letters: with another one it is a word that is not allowed there. */
+    private static void everyLetterOfAKeyword() {
+        String whole = "nets keep 1 per 2 pool 3 4;host a 0 5 pinned;host b 1 5;rule 0 allow any 6;rule 1 deny 7 any;move b 8 9;";
+        good(whole, "2 2 1 0 1 2 3 4 0 1 0 | a 0 5 0 1 0 0 0| b 1 5 0 0 8 9 0/ 0 1 0 6 / 1 0 7 0 ");
+        int start = 0;
+        for (int i = 0; i < whole.length(); i++) {
+            boolean letter = whole.charAt(i) >= 'a' && whole.charAt(i) <= 'z';
+            if (i > 0 && letter && !(whole.charAt(i - 1) >= 'a' && whole.charAt(i - 1) <= 'z')) {
+                start = i;
+            }
+            boolean ofName = whole.charAt(i) == 'b' || whole.startsWith("a 0", i);
+            if (letter && !ofName) {
+                bad(whole.substring(0, i) + "z" + whole.substring(i + 1), 1, start);
+                bad(whole.substring(0, i) + whole.charAt(i) + "z" + whole.substring(i + 1), 1, start);
+                if (i == start) {
+                    bad(whole.substring(0, i) + whole.substring(i + 1), 1, start);
+                }
+            }
+        }
     }
 
     /** "The keyword of the 41st host or of the 31st rule". */

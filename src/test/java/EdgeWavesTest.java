@@ -18,6 +18,7 @@ public final class EdgeWavesTest {
         backInTheNetAsItIsThen();
         backRefused();
         backBeyondSeveralMoves();
+        backFromAWaveDoneAgain();
         Check.end("EdgeWavesTest");
     }
 
@@ -385,5 +386,28 @@ public final class EdgeWavesTest {
             Check.due("P29 back from " + wave, Check.host(x, 0), "0 " + number + " 0 0 " + (100 + wave) + " " + wave + " " + (wave - 1));
             Check.due("P29 the rule behind " + wave, Check.sides(x), number + " 9");
         }
+    }
+
+    /** P6: "a wave from which it went back does not count", also when that wave is done again without it. */
+    private static void backFromAWaveDoneAgain() {
+        NetMerge x = Check.made("nets keep 3;host a 0 5;host b 0 30;move a 6 2;");
+        Check.waves(x, 2);
+        x.back();
+        Check.due("P29 back from 2", Check.host(x, 0), "0 5 0 0 6 2 0");
+        x.plan(0, 7, 3);
+        x.wave();
+        Check.due("P28 2 without it", Check.host(x, 0), "0 5 0 0 7 3 0");
+        x.wave();
+        Check.due("P28 it moved in 3 only", Check.host(x, 0), "0 7 5 0 0 0 3");
+        x.back();
+        Check.due("P29 back from 3: it never moved", Check.host(x, 0), "0 5 0 0 7 3 0");
+        Check.due("P21 it never moved", x.movedShare(), 0f);
+        x.back();
+        Check.due("P29 back from 2: nor then", Check.host(x, 0), "0 5 0 0 7 3 0");
+        x.plan(0, 9, 2);
+        x.wave();
+        Check.due("P28 2 to another number", Check.host(x, 0), "0 9 5 0 0 0 2");
+        x.back();
+        Check.due("P29 back from it", Check.host(x, 0), "0 5 0 0 9 2 0");
     }
 }

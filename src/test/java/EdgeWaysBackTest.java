@@ -11,6 +11,7 @@ public final class EdgeWaysBackTest {
 
     public static void main(String[] args) {
         formatParts();
+        formatNumbers();
         formatRange();
         formattedByteRange();
         formattedAsItWasThen();
@@ -21,6 +22,7 @@ public final class EdgeWaysBackTest {
         refusedOperationsAreNotRecorded();
         otherCallsAreNotRecorded();
         undoKeepsTheBuffer();
+        undoOfFullTables();
         snapshotOfEverything();
         snapshotReplaced();
         restoreClearsTheHistory();
@@ -67,6 +69,19 @@ public final class EdgeWaysBackTest {
         Check.waves(x, waves);
         Check.due("P36 " + what, x.format(0), want.length());
         Check.due("P37 " + what, Check.lastFormatted(x), want);
+    }
+
+    /** P36: "Numbers have no leading zeros." */
+    private static void formatNumbers() {
+        for (int number = 1; number <= 250; number++) {
+            int next = number % 250 + 1;
+            NetMerge x = new NetMerge();
+            x.addHost(0, number);
+            x.plan(0, next, 1);
+            Check.due("P36 " + number + " to " + next, Check.formatted(x, 0), " " + number + " > " + next + "@1");
+            x.wave();
+            Check.due("P36 " + next + " from " + number, Check.formatted(x, 0), " " + next + "+" + number);
+        }
     }
 
     private static void formatRange() {
@@ -211,6 +226,7 @@ public final class EdgeWaysBackTest {
             String before = Check.shown(x);
             int count = x.undoCount();
             int answer = operation.done(x);
+            String behind = Check.asks(x);
             String what = name + " in state " + state;
             if (answer >= 0) {
                 done |= !Check.shown(x).equals(before);
@@ -218,7 +234,12 @@ public final class EdgeWaysBackTest {
                 Check.due("P39 " + what, x.undo(), Math.min(9, count));
             }
             Check.due("P39 as ahead of " + what, Check.shown(x), before);
-            Check.due("P39 what comes of it behind " + what, future(x), future(inState(state)));
+            Check.due("P39 what is asked behind " + what, Check.asks(x), Check.asks(inState(state)));
+            NetMerge y = inState(state);
+            operation.done(y);
+            Check.due("P39 what is asked then does not hang on what was asked, " + what, Check.asks(y), behind);
+            y.undo();
+            Check.due("P39 what comes of it behind " + what, answer < 0 ? "" : future(y), answer < 0 ? "" : future(inState(state)));
         }
         Check.due("P39 " + name + " changed something", done, true);
     }
@@ -230,6 +251,7 @@ public final class EdgeWaysBackTest {
             x.removeHost(1);
             x.open();
         }
+        x.addRule(0, true, 30, 0);
         return x;
     }
 
@@ -329,6 +351,78 @@ public final class EdgeWaysBackTest {
         Check.due("P41 the error position", x.errorPosition(), 7);
         Check.due("P41 the text of format", Check.lastFormatted(x), " 6");
         Check.due("P41 the buffer", x.query(13), 1);
+    }
+
+    /** The last of 40 hosts and of 30 rules are restored like the others. */
+    private static void undoOfFullTables() {
+        Check.due("P3 the last two hosts and rules, behind two waves", lastOnes(full()),
+                "sb 0 39 0 0 0 0 0, zz 1 140 40 0 77 9 2, 0 0 101 7, 1 1 140 9, waves 2 hosts 40 rules 30");
+        lastOfAll("removeHost", x -> x.removeHost(39));
+        lastOfAll("removeHost, the first", x -> x.removeHost(0));
+        lastOfAll("removeRule", x -> x.removeRule(29));
+        lastOfAll("removeRule, the first", x -> x.removeRule(0));
+        lastOfAll("wave", NetMerge::wave);
+        lastOfAll("back", NetMerge::back);
+        lastOfAll("plan", x -> x.plan(39, 111, 8));
+        lastOfAll("unplan", x -> x.unplan(39));
+        lastOfAll("setPinned", x -> x.setPinned(39, true));
+        lastOfAll("setKeep", x -> x.setKeep(0));
+        lastOfAll("removeHost, twice", x -> x.removeHost(39) + x.removeHost(38) + x.addHost(1, 222) + x.addHost(0, 223));
+        lastOfAll("removeRule and addRule", x -> x.removeRule(29) + x.addRule(1, true, 222, 223));
+    }
+
+    private static void lastOfAll(String what, Operation operation) {
+        NetMerge x = full();
+        String before = lastOnes(x);
+        int count = x.undoCount();
+        x.saveSnapshot();
+        int answer = operation.done(x);
+        Check.due("P39 " + what + " is not refused", answer >= 0, true);
+        Check.due("P39 " + what + " changes something", lastOnes(x).equals(before), false);
+        for (int i = 0; i < 10 && x.undoCount() > count; i++) {
+            x.undo();
+        }
+        Check.due("P39 behind " + what, lastOnes(x), before);
+        operation.done(x);
+        x.restoreSnapshot();
+        Check.due("P41 behind " + what, lastOnes(x), before);
+        Check.due("P29 its move behind " + what, x.back() * 1000 + x.host(39, 1), 1040);
+    }
+
+    /** 40 hosts and 30 rules, the last of each with all that it can have, and two waves done. */
+    private static NetMerge full() {
+        StringBuilder text = new StringBuilder("nets keep 2 per 2;");
+        for (int i = 0; i < 40; i++) {
+            text.append("host").append(i == 39 ? " zz" : " " + (char) ('a' + i % 20) + (char) ('a' + i / 20));
+            text.append(i % 2).append(' ').append(1 + i).append(';');
+        }
+        for (int i = 0; i < 29; i++) {
+            text.append("rule0deny1 7;");
+        }
+        NetMerge x = Check.made(text + "rule 1allow40 9;move zz 140 2;");
+        x.plan(0, 101, 1);
+        x.wave();
+        x.wave();
+        x.plan(39, 77, 9);
+        // a text with an error, of which nothing may stay
+        Check.load(x, "nets pool 1 2;host zz 0 3;rule 0 allow any any;nope");
+        return x;
+    }
+
+    private static String lastOnes(NetMerge x) {
+        StringBuilder all = new StringBuilder();
+        for (int host = Math.max(0, x.size(0) - 2); host < x.size(0); host++) {
+            for (int i = 0; i < 8 && x.name(host, i) != NetMerge.NONE; i++) {
+                all.append((char) x.name(host, i));
+            }
+            all.append(' ').append(Check.host(x, host)).append(", ");
+        }
+        for (int rule = Math.max(0, x.size(1) - 2); rule < x.size(1); rule++) {
+            all.append(x.rule(rule, 0)).append(' ').append(x.rule(rule, 1)).append(' ');
+            all.append(x.rule(rule, 2)).append(' ').append(x.rule(rule, 3)).append(", ");
+        }
+        all.append("waves ").append(x.size(3)).append(" hosts ").append(x.size(0)).append(" rules ").append(x.size(1));
+        return all.toString();
     }
 
     /** P40: "a snapshot of everything that undoing restores"; P41: "The snapshot is kept." */
