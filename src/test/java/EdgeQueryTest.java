@@ -134,6 +134,7 @@ public final class EdgeQueryTest {
         }
         String[] others = {"name", "any", "rule", "keep", "per", "pool", "kept", "allow", "many", "first", "and", "or"};
         for (String word : others) {
+            x = five();
             wrong(x, "many " + word + "=1", 1, 5);
             wrong(x, "many 1=" + word, 1, 7);
         }
@@ -250,11 +251,11 @@ public final class EdgeQueryTest {
 
     /** Section 5: 'or' of conjunctions, 'and' of factors, 'not' of one factor. */
     private static void bindings() {
-        NetMerge x = five();
         boolean[] sides = {false, true};
         for (boolean a : sides) {
             for (boolean b : sides) {
                 for (boolean c : sides) {
+                    NetMerge x = five();
                     String p = a ? "1=1" : "1=2";
                     String q = b ? "1=1" : "1=2";
                     String r = c ? "1=1" : "1=2";
@@ -274,6 +275,7 @@ public final class EdgeQueryTest {
                 }
             }
         }
+        NetMerge x = five();
         asked(x, "many number=10 and office=1 or number=30 or host=4 and not pinned=1", 3);
         asked(x, "first office=1 and not number=10", 2);
     }
