@@ -298,6 +298,8 @@ public final class EdgeForesightTest {
         Check.due("P21 twice counts once; to the same number counts", x.movedShare(), 2f / 3f);
         x.removeHost(2);
         Check.due("P21 all of two", x.movedShare(), 1f);
+        Check.load(x, "nets ?");
+        Check.due("P21 all of two, behind a text with an error", x.movedShare(), 1f);
         x.back();
         Check.due("P21 back from the second: one moved in the first", x.movedShare(), 0.5f);
         x.back();
