@@ -357,9 +357,9 @@ public final class SentencesOfPromisesTest {
     }
 
     private static void whyNot(NetMerge x, int why, int wave) {
-        String before = Check.shown(x);
+        String before = Check.stands(x);
         Check.due("P16", x.whyNot(), why);
-        Check.due("P16 nothing is done", Check.shown(x), before);
+        Check.due("P16 nothing is done", Check.stands(x), before);
         Check.due("P16 what wave would return", x.wave(), wave);
     }
 

@@ -232,6 +232,13 @@ public final class SentencesOfTermsTest {
         Check.due("S2 it is pinned", Check.host(x, 2), "0 3 0 1 0 0 0");
         Check.due("S2 it did not move", Check.host(x, 3), "0 4 0 0 0 0 0");
         Check.due("S2 it came later", Check.host(x, 4), "1 40 0 0 0 0 0");
+        NetMerge all = Check.made("nets per 3;host o 1 9;host a 0 1;host b 0 2;host c 0 3;move a 5 1;move b 6 1;move c 7 1;");
+        all.wave();
+        all.removeHost(0);
+        all.back();
+        Check.due("S2 all three have their plans again", all.plans(1), 3);
+        Check.due("S2 a, that is host 0 now", Check.host(all, 0), "0 1 0 0 5 1 0");
+        Check.due("S2 c, that is host 2 now", Check.host(all, 2), "0 3 0 0 7 1 0");
         NetMerge y = Check.made("nets per 1;host a 0 1;host b 0 2;move b 7 1;");
         y.wave();
         y.removeHost(1);
@@ -326,13 +333,15 @@ public final class SentencesOfTermsTest {
      * both."
      */
     private static void sidesMatch() {
-        NetMerge x = Check.made("nets;host a 0 5;host b 1 9;move a 6 1;rule 0 allow 50 any;rule 0 allow 60 5;rule 1 allow 70 5;");
+        NetMerge x = Check.made("nets;host a 0 5;host b 1 9;move a 6 1;rule 0 allow 50 any;rule 0 allow 60 5;rule 1 allow 70 5;"
+                + "rule 0 allow 5 80;");
         Check.due("S3 any", x.decides(0, 50, 123), 0);
         Check.due("S3 this number", x.decides(0, 60, 5), 1);
         Check.due("S3 6 is not held yet", x.decides(0, 60, 6), -1);
         x.wave();
         Check.due("S3 the new number", x.decides(0, 60, 6), 1);
         Check.due("S3 the kept one is held by the same host", x.decides(0, 60, 5), 1);
+        Check.due("S3 on the first side, too", x.decides(0, 5, 80), 3);
         Check.due("S3 no host of the net of 1 holds both", x.decides(1, 70, 6), -1);
         x.open();
         Check.due("S3 a host of the one net holds both", x.decides(1, 70, 6), 2);
@@ -464,6 +473,7 @@ public final class SentencesOfTermsTest {
         wrong("nets;host a 0 0;", 2, 14);
         wrong("nets;rule 2 allow any any;", 2, 10);
         wrong("nets;rule 0 allow 251 any;", 2, 18);
+        wrong("nets;rule 0 allow any 0;", 2, 22);
         wrong("nets;host a 0 1;move a 4294967297 1;", 2, 23);
         wrong("nets;host a 0 1;move a 1 0;", 2, 25);
     }
